@@ -368,7 +368,7 @@ public final class CubeLegsPromises {
         CubeLegs x = cube(1);
         due("chooses()", x.chooses(), -3);
         dueTold(x, 0, 1, 0, 0, 1, 0, 0, 0, 1);
-        // Alone: the first goes by 0 (like greatest and squares, the least); a parcel that is home stays.
+        // For the first both betweens are alike, so the least; the second one, which is home, stays.
         x.parcel(0, 1, 1, 0);
         x.parcel(0, 0, 1, 7);
         due("chooses()", x.chooses(), 1);
@@ -377,17 +377,24 @@ public final class CubeLegsPromises {
         due("told(8)", x.told(8), 4);
         x.back();
         dueParcel(x, 0, 0, 1, 1, 0);
-        // By squares: 1 to 1 by 0 costs two edges, by 1 none.
         x = cube(1);
         x.parcel(1, 1, 0, 0);
         due("chooses()", x.chooses(), 0);
         due("of(0, 2)", x.of(0, 2), 1);
-        // Four alike on two sides: each other goes the other way round.
+        // Two alike: by 2 the first goes the other way round than most ways of the second one.
         x = cube(2);
         x.parcel(0, 3, 0, 0);
-        x.parcel(0, 3, 0, 0);
+        x.parcel(0, 3, 1, 0);
         due("chooses()", x.chooses(), 1);
-        due("of(0, 5)", x.of(0, 5), 0);
+        dueParcel(x, 0, 0, 3, 2, 0, 2, 0);
+        dueParcel(x, 1, 0, 3, 0, 0, 2, 0);
+        // The greatest is 5/4 by 0, 2 and 3, and 6/4 by 1; the squares are 76/16 by 0, 36/16 by 2 and 3.
+        x = cube(2);
+        x.parcel(2, 3, 1, 0);
+        x.parcel(1, 1, 3, 0);
+        due("chooses()", x.chooses(), 1);
+        due("of(0, 2)", x.of(0, 2), 2);
+        due("of(1, 2)", x.of(1, 2), 1);
     }
 
     /** 0 waits at the edge at once with 2; 1 comes a tick later, on its second leg. */
@@ -416,6 +423,7 @@ public final class CubeLegsPromises {
         x.parcel(0, 0, 0, 0);
         due("run(0)", x.run(0), 0);
         due("run(3)", x.run(3), 0);
+        due("ran(0, 0, 0)", x.ran(0, 0, 0), 0);
         for (int i = 0; i < 15; i++) {
             x.parcel(0, 1, 0, i);
         }
@@ -424,6 +432,11 @@ public final class CubeLegsPromises {
         due("run(2)", x.run(2), 14);
         due("run(3)", x.run(3), 1);
         due("run(4)", x.run(4), 15);
+        x.sets(0, 1, 1);
+        due("run(1)", x.run(1), 120);
+        due("run(2)", x.run(2), 15);
+        due("run(3)", x.run(3), 1);
+        due("ran(0, 1, 0)", x.ran(0, 1, 0), 14);
         due("run(5)", x.run(5), -2);
         due("run(-1)", x.run(-1), -2);
         due("told(0)", x.told(0), 2);
@@ -556,6 +569,11 @@ public final class CubeLegsPromises {
             dueReads(x, faulty[i], -10 - fault[i]);
         }
         dueTold(x, 0, 0, 0, 5, 3, 9, 0, 0, 3);
+        // What a longer text had behind this one's end is gone.
+        dueReads(x, "0>7*12;", 1);
+        dueReads(x, "0>7*1", -15);
+        dueReads(x, "0>7*12;", 1);
+        dueReads(x, "0>7*12", -16);
     }
 
     private static void readsTooMany() {
