@@ -399,14 +399,14 @@ public final class CubeLegs {
         addDrawn(p, -1);
         int corners = task.corners();
         int chosen = 0;
-        int leastGreatest = Integer.MAX_VALUE;
-        int leastSquares = Integer.MAX_VALUE;
+        int leastGreatest = 0;
+        int leastSquares = 0;
         for (int between = 0; between < corners; between++) {
             ways.trace(task, p, between);
             tally.add(ways, p, corners);
             int greatest = tally.amounts[tally.firstGreatest()];
             int squares = tally.squares();
-            if (greatest < leastGreatest || greatest == leastGreatest && squares < leastSquares) {
+            if (between == 0 || greatest < leastGreatest || greatest == leastGreatest && squares < leastSquares) {
                 chosen = between;
                 leastGreatest = greatest;
                 leastSquares = squares;
