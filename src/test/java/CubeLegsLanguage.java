@@ -20,7 +20,11 @@ public final class CubeLegsLanguage {
         "clear()int", "reads()int", "back()int", "told(int)int", "digest()long"};
     private static final String[] FORBIDDEN = {"\\bthrow\\b", "\\bthrows\\b", "\\btry\\b", "\\bcatch\\b",
         "\\bsynchronized\\b", "\\bassert\\b", "->", "::", "Exact\\b", "\\bpackage\\b", "\\bRandom\\b", "\\bThread\\b",
-        "\\bSystem\\.(?!arraycopy\\b)", "\\bhashCode\\b", "\\bstatic\\s*\\{", "\\bvar\\b", "\\bObject\\b"};
+        "\\bhashCode\\b", "\\btoString\\b", "\\bstatic\\s*\\{", "\\bvar\\b", "\\bObject\\b", "\\bdouble\\b", "\\bfloat\\b",
+        "\\bprotected\\b", "\\bjava\\.(?!util\\.)"};
+    /** What may stand behind a class's name and a dot: of rule 4, the part that this class has use for. */
+    private static final String LISTED = "Math\\.(min|max|abs|floorDiv|floorMod)|Arrays\\.(fill|copyOf|copyOfRange)"
+        + "|System\\.arraycopy";
     private static int wrong = 0;
 
     private static void check(boolean good, String what) {
@@ -60,8 +64,6 @@ public final class CubeLegsLanguage {
             if (!isPrivate(f)) {
                 constants.add(f.getName());
             }
-            boolean isStatic = Modifier.isStatic(f.getModifiers());
-            check(!isStatic || Modifier.isFinal(f.getModifiers()), "rule 5: " + f.getName() + " is not final");
         }
         check(constants.equals(Set.of("NONE", "BAD", "NO", "FULL")), "rule 1: the constants are " + constants);
         check(Modifier.isFinal(CubeLegs.class.getModifiers()), "rule 1: the class is not final");
@@ -72,15 +74,33 @@ public final class CubeLegsLanguage {
     private static void checkClasses(Set<String> publicNames) {
         Class<?>[] inside = CubeLegs.class.getDeclaredClasses();
         check(inside.length <= 11, "rule 11: too many classes");
+        checkMembers(CubeLegs.class);
         for (Class<?> c : inside) {
+            boolean open = Modifier.isPublic(c.getModifiers()) || Modifier.isProtected(c.getModifiers());
+            check(!open, "rule 1: " + c.getName() + " is neither private nor package-visible");
             check(Modifier.isStatic(c.getModifiers()), "rule 2: " + c.getName() + " is not static");
+            check(c.getDeclaredClasses().length == 0, "rule 2: classes inside " + c.getName());
+            checkMembers(c);
             for (Method m : c.getDeclaredMethods()) {
                 check(!publicNames.contains(m.getName()), "rule 1: " + c.getName() + " has " + m.getName());
             }
         }
         for (Method m : CubeLegs.class.getDeclaredMethods()) {
             check(!isPrivate(m) || !publicNames.contains(m.getName()), "rule 1: private " + m.getName());
-            check(m.getParameterCount() <= 7, "rule 11: parameters of " + m.getName());
+        }
+    }
+
+    private static void checkMembers(Class<?> c) {
+        int fields = 0;
+        for (Field f : c.getDeclaredFields()) {
+            boolean isStatic = Modifier.isStatic(f.getModifiers());
+            check(!isStatic || Modifier.isFinal(f.getModifiers()), "rule 5: " + f + " is not final");
+            check(!isStatic || f.getType() == int.class, "rule 5: " + f + " is no constant of int");
+            fields += isStatic ? 0 : 1;
+        }
+        check(fields <= 20, "rule 11: " + fields + " fields of " + c.getName());
+        for (Method m : c.getDeclaredMethods()) {
+            check(m.getParameterCount() <= 7, "rule 11: parameters of " + m);
         }
     }
 
@@ -89,6 +109,10 @@ public final class CubeLegsLanguage {
         for (String word : FORBIDDEN) {
             Matcher m = Pattern.compile(word).matcher(code);
             check(!m.find(), "the source has " + word);
+        }
+        Matcher library = Pattern.compile("\\b[A-Z]\\w*[a-z]\\w*\\.\\w+").matcher(code);
+        while (library.find()) {
+            check(library.group().matches(LISTED), "rule 4: " + library.group() + " is not listed");
         }
         Matcher imports = Pattern.compile("import\\s+([\\w.*]+)").matcher(code);
         while (imports.find()) {
